@@ -1,0 +1,166 @@
+/** Promises 44 to 46: alive, household and gap. */
+public final class LifeTest {
+    private static final int LAST = 73413;
+
+    private LifeTest() {
+    }
+
+    public static void main(String[] args) {
+        alive();
+        households();
+        gaps();
+        Check.end();
+    }
+
+    private static void alive(int want, Parishbook book, int mention, int day) {
+        Check.due("alive " + mention + " on " + day, want, () -> book.alive(mention, day));
+    }
+
+    private static void alive() {
+        Parishbook book = new Parishbook();
+        book.enter(0, 1000, 2000, 0);
+        book.enter(3, 5000, 6000, 0);
+        book.mention(0, 0);
+        book.mention(1, 0);
+        book.mention(0, 1);
+        book.mention(1, 1);
+        alive(0, book, 0, 999);
+        alive(1, book, 0, 1000);
+        alive(1, book, 0, 2000);
+        alive(1, book, 0, LAST);
+        alive(1, book, 1, 0);
+        alive(1, book, 1, 6000);
+        alive(0, book, 1, 6001);
+        book.join(0, 1, 0);
+        alive(0, book, 1, 999);
+        alive(1, book, 1, 1000);
+        alive(1, book, 1, 1999);
+        alive(2, book, 0, 2000);
+        alive(2, book, 0, 5000);
+        alive(1, book, 0, 5001);
+        alive(1, book, 0, 6000);
+        alive(0, book, 0, 6001);
+        alive(1, book, 2, 0);
+        alive(1, book, 3, LAST);
+        book.demand(0, 1, 4500);
+        alive(1, book, 0, 1400);
+        alive(2, book, 0, 1500);
+        alive(2, book, 0, 5500);
+        Check.index("alive of 4", () -> book.alive(4, 0));
+        Check.index("alive of -1", () -> book.alive(-1, -1));
+        Check.argument("alive on -1", () -> book.alive(0, -1));
+        Check.argument("alive on 73414", () -> book.alive(0, LAST + 1));
+        book.demand(1, 0, 0);
+        alive(-1, book, 0, 2000);
+        alive(-1, book, 3, 2000);
+        Check.argument("alive on -1, not possible", () -> book.alive(0, -1));
+    }
+
+    private static void household(String want, Parishbook book, int entry, int year) {
+        Check.due("household " + entry + " in " + year, want, () -> book.household(entry, year));
+    }
+
+    /** 0 has wed 1; 3 and 6 and 9 are children of both, 12 of the bride alone; 9 has wed. */
+    private static void households() {
+        Parishbook book = new Parishbook();
+        book.enter(2, 0, LAST, 0);
+        book.mention(0, 0);
+        book.mention(0, 1);
+        book.mention(0, 2);
+        int[] from = {Calendar.first(1650), Calendar.first(1640), Calendar.first(1660), Calendar.first(1645)};
+        for (int i = 0; i < 4; i++) {
+            int entry = book.enter(0, from[i], from[i] + 180, 0);
+            book.mention(entry, 0);
+            int father = book.mention(entry, 1);
+            int mother = book.mention(entry, 2);
+            book.join(0, i == 3 ? mother : father, 0);
+            book.join(1, mother, 0);
+            if (i < 3) {
+                Check.due("father of child " + i, 0, () -> book.person(father));
+            }
+        }
+        household("0 1", book, 0, 1639);
+        household("0 1 6", book, 0, 1640);
+        household("0 1 6", book, 0, 1649);
+        household("0 1 3 6", book, 0, 1650);
+        household("0 1 3 6 9", book, 0, 1660);
+        household("0 1 3 6 9", book, 0, 1800);
+        book.enter(2, 0, LAST, 0);
+        book.mention(5, 1);
+        book.mention(5, 2);
+        book.join(15, 9, 0);
+        household("0 1 3 6", book, 0, 1660);
+        book.join(16, 6, 0);
+        household("0 1 3 6", book, 0, 1660);
+        household("9", book, 5, 1660);
+        household("", book, 5, 1659);
+        book.enter(3, 0, Calendar.first(1670), 0);
+        book.mention(6, 0);
+        book.join(17, 0, 0);
+        household("0 1 3 6", book, 0, 1670);
+        household("1 3 6", book, 0, 1671);
+        book.put(6, 0, Calendar.first(1655));
+        household("-", book, 0, 1654);
+        household("-", book, 5, 1659);
+        Check.index("household of 7", () -> book.household(7, 1700));
+        Check.index("household of -1", () -> book.household(-1, 1));
+        Check.argument("household of a birth", () -> book.household(1, 1700));
+        Check.argument("household in 1599", () -> book.household(0, 1599));
+        Check.argument("household in 1801", () -> book.household(0, 1801));
+        Check.due("possible", 0, () -> book.house(5));
+    }
+
+    /** The first day of July, new style, of a year. */
+    private static final class Calendar {
+        private Calendar() {
+        }
+
+        static int first(int year) {
+            return new Parishbook().day(0, 1, 7, year);
+        }
+    }
+
+    private static void gap(String want, Parishbook book, int side, int least) {
+        Check.due("gap of " + side + " from " + least + " on", want, () -> book.gap(side, least));
+    }
+
+    private static void gaps() {
+        Parishbook book = new Parishbook();
+        gap("", book, 0, 1);
+        enter(book, 15, 3, 1610, 0);
+        gap("", book, 0, 1);
+        enter(book, 1, 5, 1610, 0);
+        gap("1610-4 1", book, 0, 1);
+        gap("", book, 0, 2);
+        enter(book, 31, 12, 1609, 0);
+        gap("1610-1 2", book, 0, 1);
+        gap("1610-1 2", book, 0, 2);
+        gap("", book, 0, 3);
+        enter(book, 1, 5, 1611, 1);
+        gap("", book, 1, 1);
+        gap("", book, 0, 3);
+        enter(book, 30, 6, 1611, 1);
+        gap("", book, 1, 1);
+        enter(book, 1, 12, 1620, 1);
+        enter(book, 1, 2, 1621, 1);
+        gap("1611-7 113", book, 1, 1);
+        gap("1611-7 113", book, 1, 113);
+        gap("", book, 1, 114);
+        enter(book, 1, 4, 1630, 0);
+        gap("1610-1 2", book, 0, 1);
+        gap("1610-6 238", book, 0, 3);
+        enter(book, 31, 12, 1800, 0);
+        gap("1630-5 2047", book, 0, 239);
+        gap("1630-5 2047", book, 0, 999);
+        for (int wrong : new int[] {-1, 2, Integer.MAX_VALUE}) {
+            Check.argument("gap of book " + wrong, () -> book.gap(wrong, 1));
+        }
+        for (int wrong : new int[] {-1, 0, 1000, Integer.MIN_VALUE}) {
+            Check.argument("gap of " + wrong, () -> book.gap(0, wrong));
+        }
+    }
+
+    private static void enter(Parishbook book, int d, int m, int y, int side) {
+        book.enter(1, book.day(0, d, m, y), LAST, side);
+    }
+}
