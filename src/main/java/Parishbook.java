@@ -917,7 +917,7 @@ public final class Parishbook {
 
     private void writeTree(int person) {
         text.setLength(0);
-        kin.growTree(text, person, 0);
+        kin.tellTree(text, person);
     }
 
     // ---- isSound() and digest()
@@ -2306,7 +2306,11 @@ public final class Parishbook {
             return place;
         }
 
-        void growTree(StringBuilder text, int person, int depth) {
+        void tellTree(StringBuilder text, int person) {
+            growTree(text, person, 0);
+        }
+
+        private void growTree(StringBuilder text, int person, int depth) {
             if (person == NONE || depth > MAX_DEPTH) {
                 text.append('.');
                 return;

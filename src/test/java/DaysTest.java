@@ -7,6 +7,7 @@ public final class DaysTest {
 
     public static void main(String[] args) {
         days();
+        allAround();
         dates();
         feasts();
         slips();
@@ -54,6 +55,20 @@ public final class DaysTest {
         }
         Check.argument("day of style 3", () -> BOOK.day(3, 1, 1, 1700));
         Check.argument("day of style -1", () -> BOOK.day(-1, 1, 1, 1700));
+    }
+
+    /** Days and months that there are and that there are not, in years at the edges and of all lengths. */
+    private static void allAround() {
+        Model model = new Model();
+        for (int y : new int[] {1598, 1599, 1600, 1601, 1699, 1700, 1701, 1752, 1799, 1800, 1801}) {
+            for (int m = -1; m <= 14; m++) {
+                for (int d = -1; d <= 34; d++) {
+                    for (int style = 0; style <= 2; style++) {
+                        day(model.day(style, d, m, y), style, d, m, y);
+                    }
+                }
+            }
+        }
     }
 
     private static void date(String want, int style, int day) {

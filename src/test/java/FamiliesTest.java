@@ -1,4 +1,5 @@
 import java.util.ArrayList;
+import java.util.Collections;
 import java.util.List;
 import java.util.Random;
 
@@ -128,11 +129,18 @@ public final class FamiliesTest {
     private static void lives() {
         int[] far = {0, 0, 270, -300, 300, 2555, 4380, 5110, 20075, 365 * 20, 366 * 21, 270, 1};
         int count = 2 + random.nextInt(3);
+        List<Integer> days = new ArrayList<>();
         int day = 21000 + random.nextInt(200);
         for (int e = 0; e < count; e++) {
-            int from = day + random.nextInt(3) - 1;
-            enter(random.nextInt(4), from, from + random.nextInt(2));
+            days.add(day + random.nextInt(3) - 1);
             day += far[random.nextInt(far.length)];
+        }
+        Collections.shuffle(days, random);
+        boolean isWide = random.nextInt(3) == 0;
+        for (int e = 0; e < count; e++) {
+            int from = isWide ? random.nextInt(10) : days.get(e);
+            int kind = random.nextInt(random.nextBoolean() ? 4 : 1 + random.nextInt(4));
+            enter(kind, from, isWide ? Model.LAST : from + random.nextInt(2));
         }
         for (int e = 0; e < count; e++) {
             int own = e;

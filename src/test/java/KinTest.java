@@ -22,6 +22,8 @@ public final class KinTest {
         orderOfChildren();
         ways();
         longLine();
+        farCousins();
+        spousesOfTheFirstEntry();
         secondBirth();
         Check.end();
     }
@@ -393,6 +395,56 @@ public final class KinTest {
         Check.due("letters", "aaaaaaaaaa", () -> book.letters(19, 0));
         Check.due("bars", "L", () -> book.bars(19, 0));
         Check.due("sound", true, () -> book.isSound());
+    }
+
+    /** Two lines down from 1: four births to 6, five to 16; 14 is the father of 16. */
+    private static void farCousins() {
+        Parishbook book = new Parishbook();
+        int[] fathers = {-1, 0, 2, 4, 1, 8, 10, 12, 14};
+        for (int i = 0; i < fathers.length; i++) {
+            book.enter(0, 0, LAST, 0);
+            book.mention(i, 0);
+            book.mention(i, 1);
+            if (fathers[i] >= 0) {
+                book.join(2 * i + 1, fathers[i], 0);
+            }
+        }
+        degree(8, 4, book, 6, 14);
+        degree(9, 5, book, 6, 16);
+        bar("K4", book, 6, 14);
+        bar("K3", book, 4, 12);
+        bar("-", book, 6, 16);
+        bar("-", book, 4, 16);
+        bar("K4", book, 4, 14);
+        bar("K4", book, 0, 14);
+        leave(1, book, 6, 14);
+        leave(0, book, 6, 16);
+        leave(2, book, 4, 14);
+        leave(1, book, 6, 12);
+        part("1/512", book, 6, 14);
+    }
+
+    /** 0 has wed 1 in the first entry; 3 is a brother of 0, 6 a child of 3. */
+    private static void spousesOfTheFirstEntry() {
+        Parishbook book = new Parishbook();
+        book.enter(2, 0, LAST, 0);
+        book.mention(0, 1);
+        book.mention(0, 0);
+        for (int e = 1; e < 4; e++) {
+            book.enter(0, 0, LAST, 0);
+            book.mention(e, 0);
+            book.mention(e, 1);
+        }
+        book.join(2, 1, 0);
+        book.join(3, 5, 0);
+        book.join(7, 4, 0);
+        bar("A1", book, 0, 4);
+        bar("A2", book, 0, 6);
+        bar("A1", book, 0, 3);
+        bar("K2", book, 1, 6);
+        bar("-", book, 0, 1);
+        leave(2, book, 0, 4);
+        leave(1, book, 0, 6);
     }
 
     /** The first birth with a father, and the first one with a mother. */

@@ -14,6 +14,7 @@ public final class TruthTest {
         ofPairs();
         bounds();
         clashes();
+        slowLoops();
         Check.end();
     }
 
@@ -124,6 +125,36 @@ public final class TruthTest {
         witness.join(0, 1, 0);
         witness.join(2, 3, 0);
         apart("a witness dies", -LAST, witness, 2, 1);
+        ofWidowsInOtherOrders();
+    }
+
+    private static void ofWidowsInOtherOrders() {
+        Parishbook book = new Parishbook();
+        book.enter(3, 0, LAST, 0);
+        book.enter(2, 0, LAST, 0);
+        book.enter(2, 0, LAST, 0);
+        book.mention(0, 0);
+        book.mention(1, 0);
+        book.mention(1, 1);
+        book.mention(2, 1);
+        book.mention(2, 2);
+        book.join(0, 1, 0);
+        apart("not yet a widow", -LAST, book, 0, 2);
+        book.join(2, 4, 0);
+        apart("a widow as a witness", -LAST, book, 0, 2);
+        book.undo();
+        book.join(2, 3, 0);
+        apart("a widow, the death entered first", 270, book, 0, 2);
+        apart("only that the second one is after", 270 - LAST, book, 0, 1);
+        Parishbook alone = new Parishbook();
+        alone.enter(2, 0, LAST, 0);
+        alone.enter(2, 0, LAST, 0);
+        alone.enter(3, 0, LAST, 0);
+        alone.mention(0, 1);
+        alone.mention(1, 1);
+        alone.mention(2, 1);
+        alone.join(0, 1, 0);
+        apart("a wedding without a groom, a death of nobody", -LAST, alone, 2, 1);
     }
 
     private static void ofAges() {
@@ -196,6 +227,32 @@ public final class TruthTest {
         book.put(2, 0, MIDDLE + 30);
         bound(2, MIDDLE + 30, MIDDLE + 30, book);
         Check.due("possible", 1, () -> book.house(5));
+    }
+
+    /** Demands that lead round by little, with spans that are wide; ways over each entry. */
+    private static void slowLoops() {
+        for (int middle = 0; middle < 3; middle++) {
+            int one = (middle + 1) % 3;
+            int two = (middle + 2) % 3;
+            Parishbook book = new Parishbook();
+            book.enter(0, 0, LAST, 0);
+            book.enter(1, 0, LAST, 0);
+            book.enter(2, 0, LAST, 0);
+            book.demand(one, middle, 1000);
+            book.demand(middle, two, 100);
+            apart("over " + middle, 1100, book, one, two);
+            apart("over " + middle + " back", -LAST, book, two, one);
+            bound(one, 0, LAST - 1100, book);
+            bound(middle, 1000, LAST - 100, book);
+            bound(two, 1100, LAST, book);
+            book.demand(two, one, -1100);
+            apart("all fast", -1100, book, two, one);
+            clash("-", "-", book);
+            book.demand(two, one, -1099);
+            clash("0 1 2", "0", book);
+            book.demand(two, middle, -99);
+            clash(Math.min(middle, two) + " " + Math.max(middle, two), String.valueOf(Math.min(middle, two)), book);
+        }
     }
 
     private static void clash(String clash, String wrong, Parishbook book) {
