@@ -924,8 +924,7 @@ public final class Parishbook {
 
     private boolean areDaysSound() {
         if (days.isPossible) {
-            return days.areHeldBy(days.earliest, now.entryCount)
-                    && days.areHeldBy(days.latest, now.entryCount);
+            return days.areHeldBy(days.earliest) && days.areHeldBy(days.latest);
         }
         return clashing.isTight(now, days);
     }
@@ -1578,7 +1577,7 @@ public final class Parishbook {
                 return true;
             }
             copyRow(owners, trial);
-            unite(trial, mention, other);
+            unite(trial, of(mention), of(other));
             return !isContradiction(now, trial);
         }
 
@@ -1600,14 +1599,15 @@ public final class Parishbook {
             for (int i = 0; i < sayings.size; i++) {
                 int nth = isBackwards ? sayings.size - 1 - i : i;
                 if (at(sayings.values, nth) != PARTED) {
-                    unite(row, at(sayings.firsts, nth), at(sayings.seconds, nth));
+                    unite(row, at(row, at(sayings.firsts, nth)), at(row, at(sayings.seconds, nth)));
                 }
             }
         }
 
-        private static void unite(int[] row, int mention, int other) {
-            int smaller = Math.min(at(row, mention), at(row, other));
-            int greater = Math.max(at(row, mention), at(row, other));
+        /** Makes one PERSON of two. */
+        private static void unite(int[] row, int one, int two) {
+            int smaller = Math.min(one, two);
+            int greater = Math.max(one, two);
             for (int i = 0; i < row.length; i++) {
                 if (row[i] == greater) {
                     row[i] = smaller;
@@ -1689,8 +1689,10 @@ public final class Parishbook {
         boolean isFresh = false;
         boolean isPossible = true;
         /** By two ENTRIES: how much the second day less the first is at least, by the strongest DEMAND. */
-        final Table least = new Table(MAX_ENTRIES);
-        /** Likewise, by all DEMANDS and SPANS. */
+        private final Table least = new Table(MAX_ENTRIES);
+        /** The same in a row, without what is FREE, as that is gone through so often. */
+        final Pairs asked = new Pairs(MAX_ENTRIES * MAX_ENTRIES);
+        /** By two ENTRIES, by all DEMANDS and SPANS. */
         private final Table apart = new Table(MAX_ENTRIES);
         final int[] earliest = new int[MAX_ENTRIES];
         final int[] latest = new int[MAX_ENTRIES];
@@ -1698,6 +1700,7 @@ public final class Parishbook {
         void reckon(Register now, Persons persons) {
             int count = now.entryCount;
             gather(now, persons);
+            listAsked(count);
             begin(now);
             isPossible = true;
             for (int k = 0; k < count && isPossible; k++) {
@@ -1719,13 +1722,11 @@ public final class Parishbook {
         }
 
         /** Whether days, one for each ENTRY, hold all DEMANDS. */
-        boolean areHeldBy(int[] row, int count) {
-            for (int e = 0; e < count; e++) {
-                for (int f = 0; f < count; f++) {
-                    int asked = least.get(e, f);
-                    if (asked != FREE && at(row, f) - at(row, e) < asked) {
-                        return false;
-                    }
+        boolean areHeldBy(int[] row) {
+            for (int i = 0; i < asked.size; i++) {
+                int apart = at(row, at(asked.seconds, i)) - at(row, at(asked.firsts, i));
+                if (apart < at(asked.values, i)) {
+                    return false;
                 }
             }
             return true;
@@ -1747,6 +1748,17 @@ public final class Parishbook {
             Pairs told = now.toldDemands;
             for (int i = 0; i < told.size; i++) {
                 least.raise(at(told.firsts, i), at(told.seconds, i), at(told.values, i));
+            }
+        }
+
+        private void listAsked(int count) {
+            asked.size = 0;
+            for (int e = 0; e < count; e++) {
+                for (int f = 0; f < count; f++) {
+                    if (least.get(e, f) != FREE) {
+                        asked.add(e, f, least.get(e, f));
+                    }
+                }
             }
         }
 
@@ -2000,22 +2012,20 @@ public final class Parishbook {
         }
 
         private int move(Register now, Days days) {
+            Pairs asked = days.asked;
             int state = STILL;
-            for (int e = 0; e < now.entryCount; e++) {
-                for (int f = 0; f < now.entryCount; f++) {
-                    int asked = days.least.get(e, f);
-                    if (at(inside, e) + at(inside, f) < 2 || asked == Days.FREE) {
-                        continue;
-                    }
-                    int day = at(firstDays, e) + asked;
-                    if (day > at(firstDays, f)) {
-                        store(firstDays, f, day);
-                        state = MOVED;
-                    }
-                    if (day > at(now.tos, f)) {
-                        return TOO_LATE;
-                    }
+            for (int i = 0; i < asked.size; i++) {
+                int e = at(asked.firsts, i);
+                int f = at(asked.seconds, i);
+                int day = at(firstDays, e) + at(asked.values, i);
+                if (at(inside, e) == 0 || at(inside, f) == 0 || day <= at(firstDays, f)) {
+                    continue;
                 }
+                if (day > at(now.tos, f)) {
+                    return TOO_LATE;
+                }
+                store(firstDays, f, day);
+                state = MOVED;
             }
             return state;
         }
