@@ -8,6 +8,7 @@ public final class LifeTest {
     public static void main(String[] args) {
         alive();
         households();
+        childEnteredFirst();
         gaps();
         Check.end();
     }
@@ -108,6 +109,23 @@ public final class LifeTest {
         Check.argument("household in 1599", () -> book.household(0, 1599));
         Check.argument("household in 1801", () -> book.household(0, 1801));
         Check.due("possible", 0, () -> book.house(5));
+    }
+
+    private static void childEnteredFirst() {
+        Parishbook book = new Parishbook();
+        book.enter(0, 0, 0, 0);
+        book.mention(0, 0);
+        book.mention(0, 1);
+        book.mention(0, 2);
+        book.enter(2, 0, LAST, 0);
+        book.mention(1, 1);
+        household("3", book, 1, 1700);
+        book.mention(1, 0);
+        household("4 3", book, 1, 1700);
+        book.join(3, 2, 0);
+        household("4 2", book, 1, 1700);
+        book.join(4, 1, 0);
+        household("1 2 0", book, 1, 1700);
     }
 
     /** The first day of July, new style, of a year. */
