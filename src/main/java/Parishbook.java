@@ -866,7 +866,9 @@ public final class Parishbook {
             return;
         }
         text.append(key);
-        text.deleteCharAt(0);
+        if (text.length() > 0) {
+            text.deleteCharAt(0);
+        }
     }
 
     private void writeSaying(int nth) {
