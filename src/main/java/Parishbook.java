@@ -1686,7 +1686,7 @@ public final class Parishbook {
     /** What all DEMANDS ask, whether they can hold, and on which days. */
     private static final class Days {
         /** Below all that a DEMAND can ask. */
-        private static final int FREE = Integer.MIN_VALUE;
+        private static final int FREE = -1000000000;
 
         boolean isFresh = false;
         boolean isPossible = true;

@@ -8,6 +8,10 @@ public final class NamesTest {
         keys();
         likenesses();
         nicks();
+        keysAtTheEdges();
+        likenessesAtTheEdges();
+        nicksOfKeys();
+        markAtFirst();
         Check.end();
     }
 
@@ -128,5 +132,92 @@ public final class NamesTest {
         Check.state("no refusal with six pairs", () -> book.nick(0, 6));
         Check.due("undo of a nick", 7, () -> book.undo());
         likeness(0, book, 7, 1);
+    }
+
+    /** Four sounds at most, of six letters; the first one counts though it is 0, no other 0 does. */
+    private static void keysAtTheEdges() {
+        key("123", "bvg");
+        key("1236", "bvgl");
+        key("1236", "bvglm");
+        key("1236", "bvglmr");
+        key("0123", "ebvg");
+        key("0123", "ebvglm");
+        key("01", "eb");
+        key("01", "hehehb");
+        key("0", "aeiouy");
+        key("1", "bbbbbb");
+        key("1", "bpbpbp");
+        key("11", "baaaab");
+        key("111", "bababa");
+        key("1131", "babxpb");
+        key("4", "zzzzzz");
+        key("8787", "rmrmrm");
+    }
+
+    private static void likenessesAtTheEdges() {
+        Parishbook book = named("a", "a", "e", "b", "zzzzzz", "zzzzzz", "zzzzzy", "", "");
+        likeness(3, book, 0, 1);
+        likeness(3, book, 0, 0);
+        likeness(2, book, 0, 2);
+        likeness(0, book, 0, 3);
+        likeness(3, book, 4, 5);
+        likeness(2, book, 4, 6);
+        likeness(0, book, 4, 2);
+        for (int other = 0; other < 9; other++) {
+            likeness(0, book, 7, other);
+        }
+        Parishbook more = named("bvg", "bvgl", "bvglm", "bvglr", "ann", "anna", "bann", "nna");
+        likeness(0, more, 0, 1);
+        likeness(2, more, 1, 2);
+        likeness(2, more, 2, 3);
+        likeness(2, more, 4, 5);
+        likeness(0, more, 5, 6);
+        likeness(0, more, 5, 7);
+    }
+
+    /** NICKS are of KEYS, whatever the names; they are not passed on, and hide no nearer likeness. */
+    private static void nicksOfKeys() {
+        Parishbook book = named("bob", "pap", "fay", "sue", "e", "eb", "b");
+        Check.due("nick", 1, () -> book.nick(0, 2));
+        Check.due("another nick", 2, () -> book.nick(2, 3));
+        likeness(1, book, 1, 2);
+        likeness(1, book, 2, 3);
+        likeness(0, book, 0, 3);
+        likeness(2, book, 0, 1);
+        likeness(3, book, 2, 2);
+        likeness(0, book, 6, 2);
+        Check.due("nick of the key 0 with the key 01", 3, () -> book.nick(4, 5));
+        likeness(1, book, 4, 5);
+        likeness(0, book, 4, 6);
+        Check.due("nick of the key 1 with the key 11", 4, () -> book.nick(6, 1));
+        likeness(1, book, 6, 0);
+        likeness(0, book, 6, 5);
+        book.undo();
+        book.undo();
+        likeness(0, book, 6, 0);
+        likeness(0, book, 4, 5);
+        likeness(1, book, 1, 2);
+    }
+
+    /** The PEN holds a MARK until it is told a name, and again when it is told none. */
+    private static void markAtFirst() {
+        Parishbook book = new Parishbook();
+        book.enter(0, 0, 0, 0);
+        book.mention(0, 0);
+        Pen.write(book, "ann");
+        book.mention(0, 1);
+        Pen.write(book, "");
+        book.mention(0, 2);
+        int[] letters = {0, 3, 0};
+        for (int m = 0; m < 3; m++) {
+            int own = m;
+            Check.due("letters of " + m, letters[m], () -> book.ofMention(own, 8));
+            likeness(m == 1 ? 3 : 0, book, m, m);
+        }
+        likeness(0, book, 0, 2);
+        likeness(0, book, 0, 1);
+        Check.due("nick of the first mark", -9, () -> book.nick(0, 1));
+        Check.due("nick of two marks", -9, () -> book.nick(0, 2));
+        Check.due("match of marks", 0, () -> book.match(0, 0, 0, 2, 1));
     }
 }

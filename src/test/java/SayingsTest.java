@@ -14,6 +14,8 @@ public final class SayingsTest {
         matches();
         matchesInOrder();
         matchesToTheEnd();
+        matchesOfOneSort();
+        unsaidInOrder();
         Check.end();
     }
 
@@ -234,5 +236,46 @@ public final class SayingsTest {
         Check.due("only one more saying", 1, () -> book.match(0, 0, 2, 1, 3));
         Check.due("and none more", 0, () -> book.match(0, 0, 2, 1, 3));
         Check.due("sayings", 12, () -> book.house(3));
+    }
+
+    /** Who has a mention of the other sort already is left out, be it the first mention of all or the last. */
+    private static void matchesOfOneSort() {
+        Parishbook first = named(2, 0, "ann", 0, 0, "ann", 2, 0, "ann");
+        first.join(0, 1, 0);
+        Check.due("a child that is a groom", 0, () -> first.match(0, 0, 2, 0, 3));
+        Check.due("a groom that is a child", 0, () -> first.match(2, 0, 0, 0, 3));
+        first.unsay(0);
+        Check.due("a child that is none", 1, () -> first.match(0, 0, 2, 0, 3));
+        Check.due("with the first groom", "0=1:0", () -> first.saying(0));
+        Parishbook last = named(0, 0, "ann", 2, 0, "ann", 2, 0, "ann");
+        last.join(0, 2, 0);
+        Check.due("a child that is the last groom", 0, () -> last.match(0, 0, 2, 0, 3));
+        Check.due("the last groom that is a child", 0, () -> last.match(2, 0, 0, 0, 3));
+        Parishbook both = named(0, 0, "ann", 1, 0, "ann", 3, 0, "ann");
+        Check.due("a child and who is baptized", 1, () -> both.match(0, 0, 1, 0, 3));
+        Check.due("the child and the dead", 1, () -> both.match(0, 0, 3, 0, 3));
+        Check.due("who is baptized and the dead, one person by now", 0, () -> both.match(1, 0, 3, 0, 3));
+        Check.due("all of one", "0 1 2", () -> both.mentions(2));
+    }
+
+    /** Sayings move up when one ahead of them goes: the first one, one in the middle, the last one. */
+    private static void unsaidInOrder() {
+        Parishbook book = of(0, 2, 0, 2);
+        book.join(0, 3, 1);
+        book.part(1, 4);
+        book.join(6, 9, 2);
+        book.part(2, 7);
+        book.join(3, 7, 3);
+        sayings(book, "0=3:1", "1#4", "6=9:2", "2#7", "3=7:3");
+        Check.due("unsay one in the middle", 10, () -> book.unsay(2));
+        sayings(book, "0=3:1", "1#4", "2#7", "3=7:3");
+        Check.due("unsay the last one", 11, () -> book.unsay(3));
+        sayings(book, "0=3:1", "1#4", "2#7");
+        Check.due("unsay the first one", 12, () -> book.unsay(0));
+        sayings(book, "1#4", "2#7");
+        Check.index("unsay one that is no more", () -> book.unsay(2));
+        Check.due("what was parted can be joined then", 12, () -> book.unsay(0));
+        joined(1, book, 1, 9);
+        sayings(book, "2#7", "1=9:0");
     }
 }

@@ -15,6 +15,10 @@ public final class TruthTest {
         bounds();
         clashes();
         slowLoops();
+        fewestAndFirst();
+        allTen();
+        justPossible();
+        manyDemands();
         Check.end();
     }
 
@@ -286,5 +290,139 @@ public final class TruthTest {
         clash("5 6", "1 5", book);
         book.undemand(3);
         clash("5 6", "0 5", book);
+    }
+
+    private static Parishbook wide(int count) {
+        Parishbook book = new Parishbook();
+        for (int e = 0; e < count; e++) {
+            book.enter(0, 0, LAST, e % 2);
+        }
+        return book;
+    }
+
+    /** Two entries that can not be true together. */
+    private static void apart(Parishbook book, int one, int other) {
+        book.demand(one, other, 1);
+        book.demand(other, one, 0);
+    }
+
+    /** The fewest entries go ahead; of as few, the smallest first number, then the smallest second one. */
+    private static void fewestAndFirst() {
+        Parishbook book = wide(10);
+        apart(book, 9, 8);
+        clash("8 9", "8", book);
+        apart(book, 7, 9);
+        clash("7 9", "9", book);
+        apart(book, 0, 6);
+        clash("0 6", "0 9", book);
+        Parishbook rows = wide(10);
+        apart(rows, 1, 2);
+        apart(rows, 0, 9);
+        clash("0 9", "0 1", rows);
+        apart(rows, 0, 8);
+        clash("0 8", "0 1", rows);
+        Parishbook three = wide(10);
+        three.demand(0, 1, 1);
+        three.demand(1, 2, 1);
+        three.demand(2, 0, 0);
+        clash("0 1 2", "0", three);
+        apart(three, 9, 8);
+        clash("8 9", "0 8", three);
+        fivePairs();
+    }
+
+    /** Five pairs, each of one day less than its demand: one of each pair is wrong. */
+    private static void fivePairs() {
+        Parishbook book = new Parishbook();
+        for (int e = 0; e < 10; e++) {
+            book.enter(0, 10 * e, 10 * e, 0);
+        }
+        String[] wrongs = {"8", "6 8", "4 6 8", "2 4 6 8", "0 2 4 6 8"};
+        for (int i = 0; i < 5; i++) {
+            int first = 8 - 2 * i;
+            book.demand(first, first + 1, 11);
+            clash(first + " " + (first + 1), wrongs[i], book);
+        }
+        book.demand(1, 2, 11);
+        clash("0 1", "0 2 4 6 8", book);
+        book.undo();
+        book.demand(0, 9, 91);
+        clash("0 1", "0 2 4 6 8", book);
+        book.undemand(4);
+        clash("0 9", "2 4 6 9", book);
+        book.put(9, 91, 91);
+        clash("2 3", "2 4 6", book);
+    }
+
+    /** All ten lead round, and by one day it is possible; no nine of them are impossible alone. */
+    private static void allTen() {
+        Parishbook book = wide(10);
+        for (int e = 0; e < 8; e += 2) {
+            book.same(e, e + 1);
+        }
+        for (int e = 1; e < 9; e += 2) {
+            book.demand(e, e + 1, 10);
+        }
+        book.demand(8, 9, 10);
+        book.demand(9, 0, -50);
+        clash("-", "-", book);
+        apart("round by all", 50, book, 0, 9);
+        apart("and back", -50, book, 9, 0);
+        bound(0, 0, LAST - 50, book);
+        bound(9, 50, LAST, book);
+        book.undemand(5);
+        book.demand(9, 0, -49);
+        clash("0 1 2 3 4 5 6 7 8 9", "0", book);
+        bound(5, -1, -1, book);
+    }
+
+    /** Entries that meet a demand to the day are in no clash of others. */
+    private static void justPossible() {
+        Parishbook book = new Parishbook();
+        int[] days = {0, 5, LAST - 5, LAST, 100, 105};
+        for (int day : days) {
+            book.enter(1, day, day, 0);
+        }
+        book.demand(0, 1, 5);
+        book.demand(2, 3, 5);
+        clash("-", "-", book);
+        book.demand(4, 5, 6);
+        clash("4 5", "4", book);
+        book.undo();
+        book.demand(5, 4, -4);
+        clash("4 5", "4", book);
+        book.put(4, 100, 101);
+        clash("-", "-", book);
+        bound(4, 101, 101, book);
+        book.demand(1, 5, 100);
+        clash("-", "-", book);
+        book.demand(1, 5, 101);
+        clash("1 5", "1", book);
+    }
+
+    /** More demands than one a pair of entries next to each other; the last pair is the one that clashes. */
+    private static void manyDemands() {
+        Parishbook book = wide(8);
+        book.enter(3, 0, LAST, 0);
+        book.enter(2, 0, LAST, 0);
+        book.twins(0, 2);
+        book.twins(0, 4);
+        book.twins(2, 4);
+        book.twins(4, 6);
+        book.same(0, 1);
+        book.same(2, 3);
+        book.same(4, 5);
+        book.same(6, 7);
+        for (int e = 0; e < 5; e++) {
+            book.demand(e, 7 - e % 2, -3 - e);
+        }
+        clash("-", "-", book);
+        book.demand(9, 8, 40000);
+        apart("the last pair", 40000, book, 9, 8);
+        book.put(8, 0, 39999);
+        clash("8 9", "8", book);
+        book.put(8, 0, 40000);
+        bound(9, 0, 0, book);
+        bound(8, 40000, 40000, book);
     }
 }
