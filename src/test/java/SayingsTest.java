@@ -19,20 +19,8 @@ public final class SayingsTest {
         Check.end();
     }
 
-    /** Entries of some kinds, books 0 and 1 by turns, with all their mentions in order. */
-    private static Parishbook of(int... kinds) {
-        Parishbook book = new Parishbook();
-        for (int i = 0; i < kinds.length; i++) {
-            book.enter(kinds[i], 0, LAST, i % 2);
-            for (int role = 0; role < (kinds[i] == 3 ? 2 : 3); role++) {
-                book.mention(i, role);
-            }
-        }
-        return book;
-    }
-
     private static void joins() {
-        Parishbook book = of(0, 2, 0, 2);
+        Parishbook book = Registers.of(0, 2, 0, 2);
         Check.index("join of 12", () -> book.join(12, 0, 0));
         Check.index("join with -1", () -> book.join(0, -1, 77));
         Check.argument("join of one", () -> book.join(1, 1, 0));
@@ -60,7 +48,7 @@ public final class SayingsTest {
     }
 
     private static void parts() {
-        Parishbook book = of(0, 2, 0, 2);
+        Parishbook book = Registers.of(0, 2, 0, 2);
         Check.index("part of 12", () -> book.part(12, 0));
         Check.index("part with -1", () -> book.part(0, -1));
         Check.argument("part of one", () -> book.part(1, 1));
@@ -88,7 +76,7 @@ public final class SayingsTest {
     }
 
     private static void contradictions() {
-        Parishbook book = of(0, 0, 1, 1, 3, 3, 2, 2);
+        Parishbook book = Registers.of(0, 0, 1, 1, 3, 3, 2, 2);
         joined(-9, book, 1, 5);
         joined(-9, book, 1, 8);
         joined(-9, book, 16, 5);
@@ -120,7 +108,7 @@ public final class SayingsTest {
     }
 
     private static void rounds() {
-        Parishbook book = of(0, 0, 0, 0);
+        Parishbook book = Registers.of(0, 0, 0, 0);
         joined(1, book, 1, 3);
         joined(-9, book, 4, 0);
         joined(4, book, 4, 6);
@@ -135,7 +123,7 @@ public final class SayingsTest {
 
     /** The father of the second of two births that are the same leads round, though it is no FATHER. */
     private static void secondBirth() {
-        Parishbook book = of(0, 0, 0);
+        Parishbook book = Registers.of(0, 0, 0);
         book.same(0, 1);
         joined(0, book, 0, 3);
         joined(4, book, 4, 6);
@@ -146,7 +134,7 @@ public final class SayingsTest {
     }
 
     private static void unsaid() {
-        Parishbook book = of(0, 2, 0, 2);
+        Parishbook book = Registers.of(0, 2, 0, 2);
         book.join(0, 3, 1);
         book.join(3, 7, 2);
         book.part(7, 8);
@@ -260,7 +248,7 @@ public final class SayingsTest {
 
     /** Sayings move up when one ahead of them goes: the first one, one in the middle, the last one. */
     private static void unsaidInOrder() {
-        Parishbook book = of(0, 2, 0, 2);
+        Parishbook book = Registers.of(0, 2, 0, 2);
         book.join(0, 3, 1);
         book.part(1, 4);
         book.join(6, 9, 2);
