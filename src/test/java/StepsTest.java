@@ -13,6 +13,7 @@ public final class StepsTest {
         inTheMiddle();
         round();
         askedAllAlong();
+        nothingIsLeft();
         kept();
         knocks();
         house();
@@ -371,5 +372,61 @@ public final class StepsTest {
             Registers.mentionAll(book, e);
         }
         return book;
+    }
+
+    /** What was undone, unsaid or undemanded is no more looked at, though it was the last of its row. */
+    private static void nothingIsLeft() {
+        for (int undone = 0; undone < 2; undone++) {
+            Parishbook book = new Parishbook();
+            Pen.write(book, "ann");
+            book.enter(undone == 0 ? 1 : 0, 0, LAST, 0);
+            book.mention(0, 0);
+            book.enter(undone == 0 ? 0 : 1, 0, LAST, 0);
+            book.mention(1, 0);
+            book.undo();
+            Check.due("match with a mention that was undone", 0, () -> book.match(0, 0, 1, 0, 1));
+            Check.due("no sayings", 0, () -> book.house(3));
+            Check.due("mention", 1, () -> book.mention(1, 0));
+            Check.due("match with one that is there", 1, () -> book.match(0, 0, 1, 0, 1));
+        }
+        Parishbook book = Registers.of(2, 2, 2);
+        for (int i = 0; i < 3; i++) {
+            Check.due("join", 0, () -> book.join(0, 3, 5));
+            Check.due("unsay", 9, () -> book.unsay(0));
+            Check.due("part", 1, () -> book.part(0, 3));
+            Check.due("unsay", 9, () -> book.unsay(0));
+        }
+        book.part(1, 4);
+        book.join(0, 3, 6);
+        book.unsay(1);
+        Check.due("join again behind another one", 0, () -> book.join(3, 0, 7));
+        Check.due("saying", "0=3:7", () -> book.saying(1));
+        clashesThatWent();
+    }
+
+    private static void clashesThatWent() {
+        Parishbook book = new Parishbook();
+        book.enter(0, 3, 3, 0);
+        book.enter(0, 3, 3, 0);
+        book.demand(0, 1, 1);
+        Check.due("not possible", 0, () -> book.house(5));
+        Check.due("clash", "0 1", () -> book.clash(true));
+        book.undemand(0);
+        Check.due("possible", 1, () -> book.house(5));
+        book.undo();
+        Check.due("not possible again", -1, () -> book.bound(1, false));
+        book.undo();
+        Check.due("possible", 3, () -> book.bound(1, false));
+        book.demand(1, 0, 1);
+        Check.due("not possible", -99999, () -> book.apart(0, 0));
+        book.undo();
+        book.undo();
+        Check.due("possible with one entry", 1, () -> book.house(5));
+        Check.due("no clash", "-", () -> book.clash(true));
+        Check.due("nothing wrong", "-", () -> book.clash(false));
+        Check.due("earliest", 3, () -> book.bound(0, false));
+        book.undo();
+        Check.due("possible with none", 1, () -> book.house(5));
+        Check.due("sound", true, () -> book.isSound());
     }
 }
