@@ -1005,7 +1005,7 @@ public final class Parishbook {
         private final int[] cells;
 
         Table(int side) {
-            this.side = Math.max(0, side);
+            this.side = Math.max(0, Math.min(side, MAX_MENTIONS));
             this.cells = new int[this.side * this.side];
         }
 

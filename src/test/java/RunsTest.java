@@ -7,6 +7,11 @@ public final class RunsTest {
     private static Model model;
     private static int wild;
 
+    /** An object is asked 512 times; a run's last two calls are digest() and isSound(). */
+    private static final int MOST_CALLS = 512;
+    private static int asked;
+    private static int limit;
+
     private RunsTest() {
     }
 
@@ -15,25 +20,52 @@ public final class RunsTest {
         int first = args.length > 1 ? Integer.parseInt(args[1]) : 1;
         int calls = args.length > 2 ? Integer.parseInt(args[2]) : 140;
         for (int run = first; run < first + runs; run++) {
-            random = new Random(run);
-            book = new Parishbook();
-            model = new Model();
-            wild = run % 3;
+            begin(run);
             for (int i = 0; i < calls; i++) {
-                if (i < 60 && random.nextInt(3) > 0) {
-                    grow(run, i);
-                } else {
-                    call(run, i, random.nextInt(51));
-                }
+                draw(run, i, 60);
             }
-            int at = calls;
-            both(run, at, "digest()", () -> book.digest(), () -> model.digest());
-            both(run, at, "isSound()", () -> book.isSound(), () -> model.isSound());
+            end(run);
+        }
+        for (int run = 1; run <= (args.length > 0 ? 0 : 40); run++) {
+            begin(run + 1000000);
+            for (int i = 0; asked < limit; i++) {
+                draw(run + 1000000, i, 100);
+            }
+            end(run + 1000000);
+            Check.due("calls of a whole run", MOST_CALLS, () -> asked);
         }
         Check.end();
     }
 
+    private static void begin(int run) {
+        random = new Random(run);
+        book = new Parishbook();
+        model = new Model();
+        wild = run % 3;
+        asked = 0;
+        limit = MOST_CALLS - 2;
+    }
+
+    private static void end(int run) {
+        limit = MOST_CALLS;
+        both(run, asked + 1, "digest()", () -> book.digest(), () -> model.digest());
+        both(run, asked + 1, "isSound()", () -> book.isSound(), () -> model.isSound());
+    }
+
+    /** At first more of the calls that make the register fuller. */
+    private static void draw(int run, int i, int growing) {
+        if (i < growing && random.nextInt(3) > 0) {
+            grow(run, i);
+        } else {
+            call(run, i, random.nextInt(51));
+        }
+    }
+
     private static void both(int run, int at, String what, Check.Call program, Check.Call due) {
+        if (asked >= limit) {
+            return;
+        }
+        asked++;
         Check.due("run " + run + ", call " + at + ", " + what, Check.told(due), program);
     }
 
