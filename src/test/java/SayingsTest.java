@@ -13,6 +13,7 @@ public final class SayingsTest {
         unsaid();
         matches();
         matchesInOrder();
+        firstSortFirst();
         matchesToTheEnd();
         matchesOfOneSort();
         unsaidInOrder();
@@ -207,6 +208,17 @@ public final class SayingsTest {
         book.part(1, 3);
         Check.due("match with a part", 2, () -> book.match(0, 0, 1, 0, 2));
         sayings(book, "1#3", "1=5:0", "0=3:0");
+    }
+
+    /** The smallest mention of the first sort goes ahead, though another pair has a smaller one of the second sort. */
+    private static void firstSortFirst() {
+        Parishbook book = named(2, 1, "ann", 0, 0, "ann", 0, 0, "ann", 2, 1, "ann");
+        book.part(0, 1);
+        Check.due("match of children with brides", 2, () -> book.match(0, 0, 2, 1, 3));
+        sayings(book, "0#1", "1=3:0", "0=2:0");
+        book.undo();
+        Check.due("match of brides with children", 2, () -> book.match(2, 1, 0, 0, 3));
+        sayings(book, "0#1", "0=2:0", "1=3:0");
     }
 
     private static void matchesToTheEnd() {

@@ -130,6 +130,20 @@ public final class TruthTest {
         witness.join(2, 3, 0);
         apart("a witness dies", -LAST, witness, 2, 1);
         ofWidowsInOtherOrders();
+        clashOfWidows();
+    }
+
+    /** What a first wedding asks of the second one and of the death is between these two, the first one apart. */
+    private static void clashOfWidows() {
+        Parishbook book = widow(1, 0);
+        book.put(0, 0, 0);
+        book.put(1, 1269, 1269);
+        book.put(2, 1000, 1000);
+        clash("1 2", "1", book);
+        book.put(1, 1270, 1270);
+        clash("-", "-", book);
+        book.put(0, 1271, 1271);
+        clash("0 2", "0", book);
     }
 
     private static void ofWidowsInOtherOrders() {
